@@ -1039,7 +1039,8 @@ public final class RoomTrees {
         private static final int HAS_V = 4;
         private static final int HAS_S = 8;
         /** By KIND: which numbers a MOVE has. */
-        private static final int[] HAS = {1, 7, 5, 4, 1, 1, 0, 13};
+        private static final int[] HAS = {HAS_P, HAS_P | HAS_Q | HAS_V, HAS_P | HAS_V, HAS_V, HAS_P, HAS_P, 0,
+            HAS_P | HAS_V | HAS_S};
         /** By KIND: how many new VERTICES come. */
         private static final int[] NEW = {0, 1, 1, 1, 0, 0, 0, 2};
 

@@ -4,6 +4,10 @@ import java.util.TreeSet;
 
 /** Promises 1 to 28 of ../shared/DOC.md: ordinary calls, the edges that the document names, and wrong ones. */
 public final class ForestPromisesTest extends Due {
+    /** LINES whose n is 2^30 less 1, and 2^30. */
+    private static final String MOST_LINE = "(2(-4(13(8(9(2(-6(-3(-7(-12(9(-5))))))))))))";
+    private static final String OVER_LINE = "(1(-17(4(3(-8(15(16(4(5(5(-10(-3))))))))))))";
+
     private static void newObject() {
         start(1);
         for (int what = 0; what < 10; what++) {
@@ -518,6 +522,13 @@ public final class ForestPromisesTest extends Due {
         x.weigh(0, 0);
         due("det()", x.det(), 0);
         due("told(5)", x.told(5), 1);
+        // 2^30 less 1 is 9 * 7 * 11 * 31 * 151 * 331; 2^30 and 1 is 25 * 13 * 41 * 61 * 1321
+        read("(9)(7)(11)(2(16))(8(19))(2(19(9)))");
+        due("det() of 2^30 less 1", x.det(), 1073741823);
+        read("(25)(13)(2(21))(2(2(21)))(2(25(27)))(-1)");
+        due("det() of -2^30 less 1", x.det(), OVER);
+        x.weigh(10, 1);
+        due("det() of 2^30 and 1", x.det(), OVER);
     }
 
     private static void link() {
@@ -756,6 +767,18 @@ public final class ForestPromisesTest extends Due {
         read("(-30(30(30(30(30(30(30)))))))");
         due("n is OVER", x.room(0, 0), OVER);
         due("m is OVER too", x.room(0, 1), OVER);
+        read(MOST_LINE);
+        due("n of 2^30 less 1", x.room(0, 0), 1073741823);
+        due("m of 2^30 less 1", x.room(0, 1), 1073741823 - 478230860);
+        read(OVER_LINE);
+        due("n of 2^30", x.room(0, 0), OVER);
+        due("m of 2^30", x.room(0, 1), OVER);
+        read("(9)(9)(9)(9)(9)(9)(9)(9)(9)(9)(-3(5))");
+        due("n at the last PLACES", x.room(11, 0), 16);
+        due("m at the last PLACES", x.room(11, 1), 5);
+        x.cut(10, 11);
+        due("n at the last PLACE", x.room(11, 0), 5);
+        due("m at the last PLACE", x.room(11, 1), 4);
     }
 
     private static void oneRoom() {
@@ -786,6 +809,10 @@ public final class ForestPromisesTest extends Due {
         due("OVER", x.oneRoom(0, 11), OVER);
         due("OVER", x.oneRoom(11, 0), OVER);
         due("STATE before OVER", x.oneRoom(0, 8), STATE);
+        read(MOST_LINE);
+        due("n of 2^30 less 1", x.oneRoom(0, 11), 1);
+        read(OVER_LINE);
+        due("n of 2^30", x.oneRoom(0, 11), OVER);
     }
 
     private static void chain() {
