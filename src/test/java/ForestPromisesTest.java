@@ -643,14 +643,20 @@ public final class ForestPromisesTest extends Due {
     private static int bruteWu(int what) {
         List<Integer> all = new ArrayList<>();
         int n = x.count(0);
+        int[][] table = new int[n][n];
+        for (int p = 0; p < n; p++) {
+            for (int q = 0; q < n; q++) {
+                table[p][q] = x.table(p, q);
+            }
+        }
         for (int set = 0; set < 1 << n; set++) {
             boolean good = true;
             for (int p = 0; p < n; p++) {
                 int sum = 0;
                 for (int q = 0; q < n; q++) {
-                    sum += (set >> q & 1) == 0 ? 0 : x.table(p, q);
+                    sum += (set >> q & 1) == 0 ? 0 : table[p][q];
                 }
-                good &= Math.floorMod(sum - x.at(p, 0), 2) == 0;
+                good &= Math.floorMod(sum - table[p][p], 2) == 0;
             }
             if (good) {
                 all.add(set);
@@ -969,15 +975,18 @@ public final class ForestPromisesTest extends Due {
         due("FAULTS are no ERRORS", x.told(1) + x.told(2) + x.told(3) + x.told(4) + x.told(5), 0);
     }
 
+    private static final int[] WEIGHTS = new int[12];
+    private static final int[] NEARS = new int[12];
+
     private static TreeSet<String> textsOf(int p, int from) {
         TreeSet<String> all = new TreeSet<>();
         List<Integer> below = new ArrayList<>();
         for (int q = 0; q < 12; q++) {
-            if (q != from && (x.at(p, 2) >> q & 1) != 0) {
+            if (q != from && (NEARS[p] >> q & 1) != 0) {
                 below.add(q);
             }
         }
-        orders(all, "(" + x.at(p, 0), p, below);
+        orders(all, "(" + WEIGHTS[p], p, below);
         return all;
     }
 
@@ -1017,6 +1026,10 @@ public final class ForestPromisesTest extends Due {
         for (String text : texts) {
             start(28);
             int n = read(text);
+            for (int p = 0; p < n; p++) {
+                WEIGHTS[p] = x.at(p, 0);
+                NEARS[p] = x.at(p, 2);
+            }
             TreeSet<String> all = new TreeSet<>();
             for (int p = 0; p < n; p++) {
                 all.addAll(textsOf(p, -1));

@@ -169,6 +169,7 @@ public final class TableSentencesTest extends Sentence {
     }
 
     private static void linkIs(int[] weights, int q, int above, int below) {
+        start(promise);
         read(line(weights));
         due("LINK above of 0 and " + q + " of " + line(weights), x.link(0, q, 0), above);
         due("LINK below of 0 and " + q + " of " + line(weights), x.link(0, q, 1), below);
@@ -468,6 +469,7 @@ public final class TableSentencesTest extends Sentence {
     }
 
     private static void fractionIs(int[] weights, int above, int below) {
+        start(promise);
         read(line(weights));
         due("FRACTION above of " + line(weights), x.fraction(0, weights.length - 1, 0), above);
         due("FRACTION below of " + line(weights), x.fraction(0, weights.length - 1, 1), below);
@@ -780,9 +782,11 @@ public final class TableSentencesTest extends Sentence {
             String[] weights = {"31", "-31", "99", "-99", "000", "001", "030", "-030", "300", "9999999999", "-4294967295",
                 "4294967296", "-", "-x", "--", "+1", "x", "(", ")"};
             for (String w : weights) {
+                start(27);
                 fault("(" + w + ")", 1);
                 fault("(1( " + w + "))", 4);
             }
+            start(27);
             fault("(5x)", 2);
             fault("(5/)", 2);
             fault("(5:)", 2);
@@ -798,6 +802,7 @@ public final class TableSentencesTest extends Sentence {
                 // behind the - alone it is the - that is not as told
                 fault(text.substring(0, i), ends[i] < 0 ? -ends[i] : i);
             }
+            start(27);
             fault("(1   ", 5);
             fault("   ", 3);
             fault("(1)(2  ", 7);

@@ -363,30 +363,39 @@ public final class WorkPromisesTest extends Due {
         due("fewest(4, 2)", x.fewest(4, 2), 2);
     }
 
-    /** What is due by all rows of MOVES, tried on the object itself. */
+    /** What is due by all rows of MOVES, each row tried on an object of its own. */
     private static void fewestIs(String text) {
+        start(41);
         read(text);
         for (int n = 0; n < 5; n++) {
             int[] best = {x.count(0), 0, -1};
-            all(0, n, -1, best);
+            all(text, new int[n], 0, best);
             for (int what = 0; what < 3; what++) {
                 due("fewest(" + n + ", " + what + ") of " + text, x.fewest(n, what), best[what]);
             }
         }
     }
 
-    private static void all(int depth, int n, int first, int[] best) {
-        int size = x.count(0);
+    private static void all(String text, int[] places, int depth, int[] best) {
+        RoomTrees one = new RoomTrees();
+        for (int i = 0; i < text.length(); i++) {
+            one.feed(text.charAt(i), 1);
+        }
+        one.forest();
+        for (int i = 0; i < depth; i++) {
+            one.move(one.at(places[i], 4), places[i], 0, 0, 0);
+        }
+        int size = one.count(0);
+        int first = depth == 0 ? -1 : places[0];
         if (size < best[0] || size == best[0] && (depth < best[1] || depth == best[1] && first < best[2])) {
             best[0] = size;
             best[1] = depth;
             best[2] = first;
         }
-        for (int p = 0; p < 12 && depth < n; p++) {
-            int kind = x.at(p, 4);
-            if (kind >= 0 && x.move(kind, p, 0, 0, 0) >= 0) {
-                all(depth + 1, n, depth == 0 ? p : first, best);
-                x.undo();
+        for (int p = 0; p < 12 && depth < places.length; p++) {
+            if (one.at(p, 4) >= 0) {
+                places[depth] = p;
+                all(text, places, depth + 1, best);
             }
         }
     }
