@@ -562,7 +562,7 @@ public final class RoomTrees {
         search.aim(kept);
         search.begin(forest);
         for (int moves = 0; moves <= n; moves++) {
-            if (search.climb(0, moves)) {
+            if (Search.climb(search, 0, moves)) {
                 return moves;
             }
         }
@@ -2005,25 +2005,25 @@ public final class RoomTrees {
             left = f.size();
             moves = 0;
             first = -1;
-            deepen(0, n, -1);
+            deepen(this, 0, n, -1);
         }
 
         /** PLACES go up, so that of rows of MOVES that do the same the one with the least first PLACE comes first. */
-        private void deepen(int depth, int n, int head) {
-            Forest here = levelAt(depth);
+        private static void deepen(Search on, int depth, int n, int head) {
+            Forest here = on.levelAt(depth);
             // a MOVE takes two VERTICES away at most: what can't leave fewer, nor as many sooner, is not looked at
-            if (here == null || depth >= n || here.size() - 2 * (n - depth) >= left) {
+            if (here == null || depth >= n || here.size() - 2 * (n - depth) >= on.left) {
                 return;
             }
-            Forest deeper = levelAt(depth + 1);
+            Forest deeper = on.levelAt(depth + 1);
             for (int p = 0; p < PLACES; p++) {
-                if (here.has(p) && step.shrink(here, p)) {
+                if (here.has(p) && on.step.shrink(here, p)) {
                     int begun = depth == 0 ? p : head;
-                    note(here.size() - (step.kind == DOWN ? 1 : 2), depth + 1, begun);
+                    on.note(here.size() - (on.step.kind == DOWN ? 1 : 2), depth + 1, begun);
                     if (deeper != null && depth + 1 < n) {
                         deeper.follow(here);
-                        step.act(deeper);
-                        deepen(depth + 1, n, begun);
+                        on.step.act(deeper);
+                        deepen(on, depth + 1, n, begun);
                     }
                 }
             }
@@ -2052,34 +2052,34 @@ public final class RoomTrees {
         }
 
         /** Whether just n MOVES, of which depth are DONE, lead to what is aimed at. */
-        private boolean climb(int depth, int n) {
-            Forest here = levelAt(depth);
+        private static boolean climb(Search on, int depth, int n) {
+            Forest here = on.levelAt(depth);
             if (here == null) {
                 return false;
             }
-            int spare = here.size() - goalSize;
+            int spare = here.size() - on.goalSize;
             if (spare < 0 || spare > 2 * (n - depth)) {
                 return false;
             }
             if (depth >= n) {
-                return isGoal(here);
+                return on.isGoal(here);
             }
-            Forest deeper = levelAt(depth + 1);
+            Forest deeper = on.levelAt(depth + 1);
             if (deeper == null) {
                 return false;
             }
             for (int p = 0; p < PLACES; p++) {
-                if (here.has(p) && step.shrink(here, p)) {
+                if (here.has(p) && on.step.shrink(here, p)) {
                     deeper.follow(here);
-                    step.act(deeper);
-                    if (climb(depth + 1, n)) {
+                    on.step.act(deeper);
+                    if (climb(on, depth + 1, n)) {
                         return true;
                     }
                 }
             }
             deeper.follow(here);
             deeper.mirror();
-            return climb(depth + 1, n);
+            return climb(on, depth + 1, n);
         }
     }
 }
